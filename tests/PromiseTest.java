@@ -514,6 +514,7 @@ public final class PromiseTest {
         due("first()", x.first(), 8);
         // as many inversions as MOVES
         for (int order = 0; order < 720; order += 43) {
+            x = with(new String[] {"(ab)", "(bc)", "(cd)", "(de)", "(ef)"}, new String[] {});
             x.put(order);
             int inversions = 0;
             int first = -9;
