@@ -1015,6 +1015,21 @@ public final class EdgeTest {
         due("found(0)", order.found(0), 0);
         due("found(1)", order.found(1), 2);
         y.time(0, 0, 10);
+        says(21, "the one of least SECONDS, be they the greatest that there can be");
+        // no other row of 1 .. 5 MOVES does the same
+        TurnedInSix dear = with("(abcdef) (abc)", "0'0'1'0'0'");
+        for (int one = 0; one < 2; one++) {
+            dear.time(one, 0, 99);
+            dear.time(one, 1, 99);
+            dear.after(one, 0, 99);
+            dear.after(one, 1, 99);
+        }
+        due("better(0, 4)", dear.better(0, 4), -3);
+        due("better(0, 5)", dear.better(0, 5), 5 * 198 + 4 * 99);
+        int[] dearest = {1, 1, 3, 1, 1};
+        for (int i = 0; i < 5; i++) {
+            due("found(" + i + ")", dear.found(i), dearest[i]);
+        }
         says(21, "that do the same: nothing too, but by 1 MOVE or more");
         due("better(2, 1)", y.better(2, 1), -3);
         due("better(2, 2)", y.better(2, 2), 20);

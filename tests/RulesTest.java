@@ -28,6 +28,8 @@ public final class RulesTest {
     private static final String[] FORBIDDEN = {"throw", "throws", "try", "catch", "synchronized", "assert", "import",
         "package", "volatile", "protected", "instanceof", "record", "var", "System\\.(?!arraycopy)", "->", "::", "@",
         "\\w+Exact\\(", "Float", "Double", "Random", "nanoTime", "currentTimeMillis", "\" *\\+", "\\+ *\""};
+    /** What of rule 4 the source uses: static functions, no constants (Integer.MAX_VALUE is none of them). */
+    private static final Set<String> LIBRARY = Set.of("Math.max", "Math.min", "Integer.bitCount", "System.arraycopy");
     private static int wrong = 0;
 
     private static void must(boolean holds, String what) {
@@ -102,6 +104,33 @@ public final class RulesTest {
             must(made.group().matches(" +(private )?(final )[\\w\\[\\]]+ \\w+ = new .*;"), "made with the object: " + made.group());
         }
         must(bare.chars().allMatch(sign -> sign < 128), "signs 1 to 127");
+        Matcher used = Pattern.compile("\\b[A-Z]\\w*\\.\\w+").matcher(bare);
+        while (used.find()) {
+            must(LIBRARY.contains(used.group()), "of the library only what rule 4 tells: " + used.group());
+        }
+        Matcher loops = Pattern.compile("\\bwhile \\((.*)\\) \\{").matcher(bare);
+        while (loops.find()) {
+            must(loops.group(1).matches(".*(often < ORDERS|at > 0|divisor > 1).*"), "a loop with a counter: " + loops.group());
+        }
+        shortMethods(bare.split("\n"));
+    }
+
+    /** Methods and constructors stay at some sixty lines; they begin and end at the same indentation. */
+    private static void shortMethods(String[] lines) {
+        int methods = 0;
+        for (int from = 0; from < lines.length; from++) {
+            if (!lines[from].matches("( {4}| {8})[\\w\\[\\] ]+\\([\\w\\[\\], ]*\\) \\{")) {
+                continue;
+            }
+            methods++;
+            String end = lines[from].replaceAll("\\S.*", "}");
+            int to = from;
+            while (to < lines.length && !lines[to].equals(end)) {
+                to++;
+            }
+            must(to < lines.length && to - from < 60, "some sixty lines: " + lines[from].trim());
+        }
+        must(methods > 80, "methods were looked at, not " + methods);
     }
 
     private static int any(Random random) {

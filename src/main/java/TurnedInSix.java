@@ -40,6 +40,9 @@ public final class TurnedInSix {
     private static final int NONE = -9;
     private static final int FILM_TOO_LONG = 99;
     private static final int FAULT_BASE = -20;
+    private static final int WITHOUT_SIGN = 0x7fffffff;
+    /** More than the dearest row takes: of each MOVE TIME, BACK and AFTER at their greatest. */
+    private static final int ABOVE_ALL_TIMES = 3 * MOST_TENTHS * MOST_FOUND + 1;
     private static final int AFTER_REFUSED = 1000000000;
 
     private static final int NOBODY = -1;
@@ -906,7 +909,7 @@ public final class TurnedInSix {
             int locked = 0;
             for (int i = 0; i < moves; i++) {
                 z = z * 1664525 + 1013904223;
-                if ((z & Integer.MAX_VALUE) / 256 % 100 < locking[LOCKS]) {
+                if ((z & WITHOUT_SIGN) / 256 % 100 < locking[LOCKS]) {
                     locked++;
                 }
             }
@@ -935,7 +938,7 @@ public final class TurnedInSix {
         int leastTime(int from, int n) {
             most = Math.min(n, MOST_FOUND);
             bestLength = 0;
-            bestTime = Integer.MAX_VALUE;
+            bestTime = ABOVE_ALL_TIMES;
             search(this, 0, from, 0);
             if (bestLength == 0) {
                 return NONE;
